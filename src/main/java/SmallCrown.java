@@ -857,7 +857,8 @@ public final class SmallCrown {
         private static final int ONE_FLAT = 1 << MOST_CELLS;
         private static final int LEANS = 2 * MOST_HOLD + 1;
 
-        private final int[] costs = new int[MOST_CELLS * WINDS * LEANS];
+        // The fountain itself costs nothing, so only the cells ahead of it are kept.
+        private final int[] costs = new int[MOST_LENGTH * WINDS * LEANS];
         private final long[] chances = new long[LEANS];
         private final long[] nextChances = new long[LEANS];
 

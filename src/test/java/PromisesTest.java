@@ -248,12 +248,18 @@ public final class PromisesTest {
             {"road\0 8 5;", 4}, {"road 8 5{;", 8}, {"road` 8 5;", 4}, {"road 8/5;", 6}, {"road 8:5;", 6},
             {"road 8 5;head0 0;head0 0;head0 0;bent0 0;head0 0;bent0 0;", 49},
             {"road 8 5;head0 0;head0 0;head0 0;bent0 0;head0 0;head", 49},
+            {"toad 8 5;", 0}, {"roadz 8 5;", 0}, {"roada 8 5;", 0}, {"road 8 5;dead 0 0;", 9},
+            {"road 8 5;sent 0 0;", 9}, {"road 8 5;full 0 0;", 9}, {"road 8 5;mind 0 0;", 9},
+            {"road 8 5;pole 0 0;", 9}, {"road 8 5;gobble 0 0;", 9}, {"road 8 5;cobbles 0 0;", 9},
+            {"road 8 5;hole 08 04;cobble 09 0;", 27}, {"road 8 5 " + " ".repeat(141), 150},
         };
         for (Object[] fault : faults) {
             due("read of [" + fault[0] + "]", read((String) fault[0]), -10 - (Integer) fault[1]);
         }
         due("read without blanks", read("road8 5;cobble1 1;wind1 1;bent1 1;"), 4);
         due("read of the shortest", read("road 1 1;"), 1);
+        due("read of 150 bytes", read("road 8 5" + " ".repeat(141) + ";"), 1);
+        due("read of 150 bytes, a fault in the last", read("road 8 5;" + " ".repeat(140) + "z"), -159);
         SmallCrown x = new SmallCrown();
         x.head(3, 3);
         x.walk(0);

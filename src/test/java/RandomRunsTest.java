@@ -16,7 +16,7 @@ public final class RandomRunsTest {
     private SmallCrown x = new SmallCrown();
     private Reference r = new Reference();
     private int calls = 0;
-    private int[] heavy = {0};
+    private int flats = 0;
 
     private RandomRunsTest(Due due, long seed) {
         this.due = due;
@@ -205,7 +205,7 @@ public final class RandomRunsTest {
                 break;
             }
             case 32: {
-                if (heavy[0]++ < 6) {
+                if (flats++ < 6) {
                     due("flat(" + head + ", " + t + ")", x.flat(head, t), r.flat(head, t));
                 }
                 break;
