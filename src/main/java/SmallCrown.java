@@ -335,7 +335,7 @@ public final class SmallCrown {
         Plain kind = kind(world.kindOf(head));
         above = ways.through(world.road, kind, world.setOf(head), pace, c);
         below = 1;
-        for (int cell = 0; cell < world.road.length; cell += pace) {
+        for (int s = 0; s < MOST_LENGTH && s * pace < world.road.length; s++) {
             below *= TENTHS;
         }
         long common = commonDivisor(above, below);
@@ -1142,7 +1142,7 @@ public final class SmallCrown {
         }
 
         private int byteAt(int place) {
-            return within(place, 0, MOST_BYTES - 1) ? text[place] : 0;
+            return place >= 0 && place < MOST_BYTES ? text[place] : 0;
         }
     }
 }

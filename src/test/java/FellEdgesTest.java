@@ -20,6 +20,7 @@ public final class FellEdgesTest {
         isByCell();
         isFallenAtOnce();
         bowl();
+        bowlOfThese();
         bowlNone();
         whoBowed();
         whoBowedNowhere();
@@ -126,6 +127,14 @@ public final class FellEdgesTest {
         S.says("IS: all NOTES, so that none may fit");
         x.note(0, 0, 3, -1);
         S.due(0, x, "is", 0);
+        S.says("IS: all NOTES, the 6th too");
+        x.forget();
+        for (int i = 1; i <= 5; i++) {
+            S.due(i, x, "note", 0, 0, 0, -1);
+        }
+        S.due(63, x, "is", 0);
+        S.due(6, x, "note", 0, 0, 3, 3);
+        S.due(1 << SHORT | 1 << BRED, x, "is", 0);
         S.says("IS: NOTES from STEP t, by winds that come again");
         SmallCrown y = Sentences.road(8, 2, PLAIN, 1);
         y.wind(0, 2);
@@ -205,6 +214,42 @@ public final class FellEdgesTest {
         S.due(2, z, "bowl", 0);
         z.wind(0, 0);
         S.due(1, z, "bowl", 0);
+    }
+
+    private static void bowlOfThese() {
+        S.says("BOWL: the PACE p (1 .. 3)");
+        SmallCrown x = Sentences.road(8, 5, PLAIN, 5);
+        x.cobble(1, 4);
+        x.cobble(2, 4);
+        x.cobble(3, 4);
+        x.cobble(4, 1);
+        S.due(1, x, "bowl", 0);
+        S.says("BOWL: of SHORT and BRED alone, whom the winds part at 2");
+        SmallCrown y = Sentences.road(8, 6, PLAIN, 3);
+        y.cobble(1, 4);
+        y.cobble(3, 3);
+        y.wind(1, 3);
+        y.wind(2, 1);
+        y.note(0, 0, 3, 3);
+        S.due(1 << SHORT | 1 << BRED, y, "is", 0);
+        S.due(2, y, "bowl", 0);
+        S.says("BOWL: of PLAIN and SHORT alone, whom cobbles part at 3");
+        SmallCrown z = Sentences.road(9, 6, PLAIN, -6);
+        z.cobble(3, 4);
+        z.cobble(6, 4);
+        z.wind(5, -1);
+        z.note(0, 5, 1, 1);
+        S.due(1 << PLAIN | 1 << SHORT, z, "is", 0);
+        S.due(3, z, "bowl", 0);
+        S.says("BOWL: till it is over, though that takes as many STEPS as CELLS");
+        SmallCrown v = Sentences.road(15, 5, PLAIN, 5);
+        v.cobble(14, 1);
+        S.due(1, v, "bowl", 0);
+        S.says("BOWL: FALLEN at once, all end in CELL 0");
+        SmallCrown w = Sentences.road(8, 5, PLAIN, 6);
+        for (int i = 0; i < 3; i++) {
+            S.due(1, w, "bowl", 0);
+        }
     }
 
     private static void bowlNone() {
@@ -287,6 +332,8 @@ public final class FellEdgesTest {
         x.cobble(2, 4);
         S.due(1 << 2, x, "bowed", 0, 0, 111, 3, 2);
         S.due(0, x, "bowed", 0, 0, 111, 3, 3);
+        S.due(1 << 2, x, "bowed", 0, 5, 111, 3, 2);
+        S.due(1 << 1 | 1 << 2, x, "bowed", 0, 5, 111111, -1, 2);
     }
 
     private static void whoBowedRefused() {
@@ -367,6 +414,17 @@ public final class FellEdgesTest {
         z.head(PLAIN, -3);
         fraction(0, 1, z, 1, 2, 0);
         fraction(0, 1, z, 2, 3, 10);
+        S.says("PIGEONS: a LEAN of HOLD less than nothing does not FALL");
+        SmallCrown v = Sentences.road(15, 12, PLAIN, -12);
+        v.head(PLAIN, 12);
+        v.head(PLAIN, 0);
+        for (int i = 0; i < 2; i++) {
+            fraction(1, 1, v, 0, 1, 0);
+            fraction(1, 1, v, 1, 1, 0);
+            fraction(1, 1, v, 2, 1, 0);
+            fraction(1, 1, v, 0, 1, 10);
+            fraction(1, 100000, v, 1, 3, 10 - 1);
+        }
         S.says("PIGEONS from STEP 0, by winds that come again");
         SmallCrown w = Sentences.road(15, 12, PLAIN, 3);
         w.head(PLAIN, 4);
@@ -437,23 +495,25 @@ public final class FellEdgesTest {
         x.head(BRED, -4);
         S.due(0, x, "crowned", 1, 999999, 60);
         S.due(0, x, "crowned", 2, 0, 60);
+        S.says("CORONATIONS: as many STEPS as CELLS, by paces of 1 alone");
+        SmallCrown ones = Sentences.road(15, 5, PLAIN, 0);
+        S.due(1, ones, "crowned", 0, 430627, 1);
+        S.due(2, ones, "crowned", 0, 430627, 2);
         S.says("CORONATIONS: FALLEN in THE FOUNTAIN, none comes through");
         SmallCrown y = Sentences.road(1, 3, PLAIN, 0);
         y.cobble(1, 4);
         S.due(0, y, "crowned", 0, 5, 60);
     }
 
-    /** On a road of one cell with a cobble of 4, a short step of 3 alone falls; a nod of 2 alone holds. */
     private static void seeds() {
         S.says("X is SEED at first; for each STEP X becomes X times 1103515245 and 12345, what is left over");
-        SmallCrown x = Sentences.road(1, 4, SHORT, 0);
+        SmallCrown x = Sentences.road(2, 3, PLAIN, 0);
         x.cobble(1, 4);
-        // Seed 0 gives 12345 (0 by 65536), then 1406932606 (21468), 654583775 (9988), 1449466924 (22117).
-        int[] paces = {1, 1, 2, 2};
-        int held = 0;
-        for (int n = 1; n <= 4; n++) {
-            held += paces[n - 1] == 3 ? 0 : 1;
-            S.due(held, x, "crowned", 0, 0, n);
+        // Seed 0 gives 12345, 1406932606, 654583775, 1449466924, 229283573, 1109335178, 1051550459, 1293799192:
+        // paces of 1, 1, 2, 2, 1, 2, 2, 2; those of 1 fall in cell 1, the others come through at once.
+        int[] through = {0, 0, 0, 1, 2, 2, 3, 4, 5};
+        for (int n = 0; n < through.length; n++) {
+            S.due(through[n], x, "crowned", 0, 0, n);
         }
         S.says("CORONATIONS from STEP 0, by winds that come again");
         SmallCrown y = Sentences.road(15, 12, PLAIN, 10);

@@ -66,6 +66,20 @@ public final class KeptEdgesTest {
             S.due(7, x, "now", 3);
         }
         S.due(-3, x, "undo");
+        S.says("what may be undone they keep, whatever another WALK did");
+        x.cobble(1, 1);
+        S.due(1, x, "from", 0);
+        x.walk(0);
+        for (int i = 0; i < 5; i++) {
+            x.hand();
+            x.step(2);
+        }
+        S.due(1, x, "from", 0);
+        for (int i = 10; i >= 3; i--) {
+            S.due(i, x, "undo");
+            S.due(i, x, "now", 2);
+            S.due(7, x, "now", 3);
+        }
         S.says("it goes on from one");
         S.due(1, x, "from", 0);
         S.due(14, x, "step", 3);
@@ -108,6 +122,17 @@ public final class KeptEdgesTest {
         S.due(0, x, "now", 3);
         S.due(2, x, "undo");
         S.due(1, x, "now", 3);
+        S.says("An IMAGE keeps NOTES 0 .. 5, HEADS 0 .. 4 and the COBBLE of the 15th CELL");
+        SmallCrown y = Sentences.road(15, 12, 0, 0);
+        fill(y, 1);
+        y.image(0);
+        long full = y.digest();
+        y.road(15, 12);
+        y.head(5, 5);
+        fill(y, 2);
+        S.due("another digest()", y.digest() == full ? 1 : 0, 0);
+        S.due(1, y, "from", 0);
+        S.due("digest()", y.digest(), full);
         S.says("An IMAGE is kept, in the place of one that was");
         x.road(3, 3);
         S.due(1, x, "image", 1);
@@ -115,6 +140,19 @@ public final class KeptEdgesTest {
         S.due(1, x, "from", 1);
         S.due(3, x, "count", 1);
         S.due(0, x, "count", 0);
+    }
+
+    private static void fill(SmallCrown x, int n) {
+        for (int c = 0; c <= 15; c++) {
+            x.cobble(c, n);
+        }
+        for (int i = 0; i <= 5; i++) {
+            x.wind(i, n);
+            x.head(n, n);
+        }
+        for (int i = 0; i <= 5; i++) {
+            x.note(n, n, n, n);
+        }
     }
 
     private static void imagesRefused() {
@@ -284,7 +322,7 @@ public final class KeptEdgesTest {
     private static void lastCalls() {
         S.says("An object is used for at most 512 calls");
         SmallCrown x = Sentences.road(15, 12, 0, 0);
-        for (int i = 0; i < 252; i++) {
+        for (int i = 0; i < 253; i++) {
             x.walk(0);
             x.step(3);
         }

@@ -18,6 +18,8 @@ public final class PacesEdgesTest {
         pacesRefused();
         soonestSteps();
         soonestRow();
+        soonestOfMostSteps();
+        soonestAtTheHold();
         soonestNone();
         soonestRefused();
         hour();
@@ -192,6 +194,68 @@ public final class PacesEdgesTest {
         S.due(0, x, "status", 0);
     }
 
+    /** Each cobble makes up for the wind of the step that comes to it by paces of 1, and for no other's. */
+    private static SmallCrown onlyByOnes() {
+        return onlyByOnes(PLAIN);
+    }
+
+    private static SmallCrown onlyByOnes(int kind) {
+        SmallCrown x = Sentences.road(15, 1, kind, 0);
+        for (int i = 0; i <= 5; i++) {
+            x.wind(i, 3 * (i % 3 - 1));
+        }
+        for (int c = 1; c <= 15; c++) {
+            x.cobble(c, -3 * ((c - 1) % 3 - 1));
+        }
+        return x;
+    }
+
+    private static void soonestOfMostSteps() {
+        S.says("SOONEST: the fewest STEPS, though they are as many as CELLS");
+        row(onlyByOnes(), 0, 1, 1, 1, 1, 1, 1, 1, 1, 1, 1, 1, 1, 1, 1, 1);
+        row(onlyByOnes(), 3, 1, 1, 1, 1, 1, 1, 1, 1, 1, 1, 1, 1, 1, 1, 1);
+        SmallCrown x = onlyByOnes(SHORT);
+        row(x, 0, 1, 1, 1, 1, 1, 1, 1, 1, 1, 1, 1, 1, 1, 1, 1);
+        x.cobble(14, 1);
+        x.cobble(15, -2);
+        row(x, 0, 1, 1, 1, 1, 1, 1, 1, 1, 1, 1, 1, 1, 1, 1, 3);
+        row(onlyByOnes(), 1, 2, 1, 1, 1, 1, 1, 1, 1, 1, 1, 1, 1, 1, 1);
+        row(onlyByOnes(), 5, 3, 1, 1, 1, 1, 1, 1, 1, 1, 1, 1, 1, 1);
+        S.due(2, onlyByOnes(), "hour", 0);
+        S.due(15, onlyByOnes(), "sure", 0, 0, 0);
+        S.due(0, onlyByOnes(), "flat", 0, 0);
+        S.says("SOONEST: each STEP is a PACE (1 .. 3), none waits for a wind");
+        SmallCrown y = Sentences.road(4, 2, STIFF, 0);
+        y.cobble(4, 4);
+        y.wind(0, -1);
+        row(y, 5, 1, 3);
+        row(y, 4, 1, 1, 2);
+        row(y, 3, 1, 1, 1, 1);
+        S.due(-1, y, "soonest", 0, 2, -1);
+    }
+
+    private static void soonestAtTheHold() {
+        S.says("a LEAN of HOLD, or of that less than nothing, does not FALL");
+        for (int set : new int[] {12, -12}) {
+            for (int t = 0; t <= 5; t++) {
+                SmallCrown x = Sentences.road(15, 12, PLAIN, set);
+                row(x, t, 3, 3, 3, 3, 3);
+                S.due(5, x, "sure", 0, t, 0);
+                S.due(0, x, "flat", 0, t);
+            }
+            int out = set / 3;
+            SmallCrown x = Sentences.road(15, 12, PLAIN, set);
+            for (int c = 1; c <= 13; c++) {
+                x.cobble(c, c % 3 == 0 ? 0 : out);
+            }
+            x.cobble(15, set / 4);
+            x.wind(5, -set / 4);
+            row(x, 0, 3, 3, 3, 3, 2, 1);
+            S.due(6, x, "sure", 0, 0, 0);
+            S.due(0, x, "flat", 0, 0);
+        }
+    }
+
     private static SmallCrown walled() {
         SmallCrown x = Sentences.road(3, 3, PLAIN, 0);
         x.cobble(3, 4);
@@ -282,6 +346,13 @@ public final class PacesEdgesTest {
         y.cobble(1, -4);
         S.due(-1, y, "sure", 0, 0, 3);
         S.due(1, y, "sure", 0, 0, 2);
+        S.says("SURE: a bow and the WIND of the next STEP together");
+        for (int side = -1; side <= 1; side += 2) {
+            SmallCrown x2 = Sentences.road(4, 2, PLAIN, 0);
+            x2.wind(1, side);
+            S.due(-1, x2, "sure", 0, 0, 1);
+            S.due(2, x2, "sure", 0, 2, 1);
+        }
         S.says("SURE: what he could do only by a bow does not count");
         y.cobble(1, 1);
         S.due(-1, y, "sure", 0, 0, 1);

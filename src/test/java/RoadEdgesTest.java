@@ -107,6 +107,9 @@ public final class RoadEdgesTest {
         for (int c = 0; c <= 15; c++) {
             S.due(0, x, "cobble", c, 0);
         }
+        for (int i = 0; i <= 5; i++) {
+            S.due(0, x, "wind", i, 0);
+        }
         S.says("(but for IMAGES, THE TEXT, THE FRACTION, STATUS)");
         S.due(150, x, "count", 5);
         S.due(above, x, "part", 0);

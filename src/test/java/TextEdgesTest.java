@@ -67,6 +67,8 @@ public final class TextEdgesTest {
         fault("road@ 8 5;", 4);
         fault("road[ 8 5;", 4);
         fault("zoad 8 5;", 0);
+        fault("roadz 8 5;", 0);
+        fault("aroad 8 5;", 0);
         fault("roadaroad 8 5;", 0);
         fault("ro ad 8 5;", 0);
     }
@@ -84,6 +86,8 @@ public final class TextEdgesTest {
         fault("road 15;", 7);
         fault("road /8 5;", 5);
         fault("road :8 5;", 5);
+        fault("road 8/5;", 6);
+        fault("road 8:5;", 6);
     }
 
     private static void blanks() {
@@ -261,6 +265,14 @@ public final class TextEdgesTest {
         }
         fault("road 8 5;wind 0 0     ", 22);
         fault("road 8 5" + " ".repeat(142), 150);
+        S.says("the TEXT's length, if it ends too early, whatever was typed ahead of clear");
+        String[][] texts = {{"road 8 5;    ", "road 8"}, {"road 8 59;", "road 8 5"}, {"road 8 5;head 0 0;", "road 8 5"},
+            {"road 8 5;head 0 0;", "road 8 5;head"}, {"road 8 5;head 0 0;", "road 8 5;head 0 "}, {"roads", "road"}};
+        for (String[] pair : texts) {
+            SmallCrown x = Sentences.type(new SmallCrown(), pair[0]);
+            x.clear();
+            S.due("read of [" + pair[1] + "]", Sentences.type(x, pair[1]).read(), -10 - pair[1].length());
+        }
         S.says("(an empty one, too)");
         fault("", 0);
         fault(" ", 1);

@@ -366,6 +366,18 @@ public final class WalkEdgesTest {
         S.due(0, x, "count", 4);
         S.due(8, x, "step", 1);
         S.due(7, x, "undo");
+        S.says("UNDO (8 at most): each with its LEAN");
+        SmallCrown y = Sentences.road(15, 12, PLAIN, 0);
+        y.walk(0);
+        for (int c = 1; c <= 12; c++) {
+            y.cobble(c, 1);
+            y.step(1);
+        }
+        for (int i = 11; i >= 4; i--) {
+            S.due(i, y, "undo");
+            S.due(i, y, "now", 3);
+        }
+        S.due(-3, y, "undo");
     }
 
     private static void of() {
