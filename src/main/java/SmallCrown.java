@@ -6,8 +6,8 @@
 public final class SmallCrown {
     public static final int NONE = -1, BAD = -2, NO = -3, FULL = -4;
 
-    // Refusals that the document tells apart because a lean, a cobble or a
-    // wind may itself be -2 or -3.
+    // Numbers of their own, told for single calls: in most of these a lean, a
+    // cobble or a wind may itself be -2 or -3.
     private static final int BAD_NUMBER = -10;
     private static final int BAD_LEAN = -100;
     private static final int NO_HAND = -99;

@@ -23,7 +23,9 @@ public final class LanguageTest {
     private static final String[] NEVER = {
         "\\bthrow\\b", "\\btry\\b", "\\bcatch\\b", "\\bsynchronized\\b", "\\bassert\\b", "\\bimport\\b",
         "\\bpackage\\b", "->", "::", "@", "\\w+Exact\\b", "\\bSystem\\.(?!arraycopy)", "\\bequals\\b",
-        "\\bhashCode\\b", "\\btoString\\b", "\\bprotected\\b", "\\bpublic static (?!final)", "[^\\x00-\\x7f]"
+        "\\bhashCode\\b", "\\btoString\\b", "\\bprotected\\b", "\\b(java|native|volatile|Object)\\b",
+        "\\bMath\\.(?!(min|max|abs|floorMod|floorDiv)\\b)", "\\bwhile \\(true\\)", "\\bfor \\(;",
+        "\\bpublic static (?!final)", "[^\\x00-\\x7f]"
     };
 
     private LanguageTest() {
